@@ -727,16 +727,15 @@ public final class BookBridge {
             in.open(text, n);
             int fault = 0;
             for (int line = 0; line <= MOST_BYTES && fault == 0 && in.kind != Reader.END; line++) {
-                fault = readLine();
+                fault = readBody();
+                if (fault == 0) {
+                    fault = readSign();
+                }
             }
             return fault;
         }
 
-        private int readLine() {
-            int fault = readBody();
-            if (fault != 0) {
-                return fault;
-            }
+        private int readSign() {
             if (in.kind != Reader.SIGN) {
                 return WRONG;
             }
@@ -744,6 +743,7 @@ public final class BookBridge {
             return 0;
         }
 
+        /** A LINE but for its end. */
         private int readBody() {
             if (in.isWord("book")) {
                 return readBook();
@@ -1107,14 +1107,6 @@ public final class BookBridge {
         }
 
         /** Places whose planks bear a WALKER, were none UP. */
-        private int bears(int walker, int begun) {
-            int entry = walker * BEGUN_SETS + begun;
-            if (bearing[entry] == UNKNOWN) {
-                bearing[entry] = findBearing(river.walker[walker], begun);
-            }
-            return bearing[entry];
-        }
-
         private int findBearing(Walker who, int begun) {
             int shunned = who.kind == Walker.JUDGE ? river.casesOfCourt(who.side) : 0;
             int places = 0;
@@ -1130,7 +1122,11 @@ public final class BookBridge {
 
         /** Places whose planks aren't THERE for a WALKER. */
         int gaps(int walker, int upPlaces, int begun) {
-            return all() & ~(bears(walker, begun) & ~upPlaces);
+            int entry = walker * BEGUN_SETS + begun;
+            if (bearing[entry] == UNKNOWN) {
+                bearing[entry] = findBearing(river.walker[walker], begun);
+            }
+            return all() & ~(bearing[entry] & ~upPlaces);
         }
 
         boolean passes(int walker, int gaps, boolean flood) {
