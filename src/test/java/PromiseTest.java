@@ -473,6 +473,11 @@ public final class PromiseTest {
         BookBridge legless = Due.bridge("book 9;case 0 1 0;plain 0 0 0 0 0;farmer 0 0 0 0 0;flood 0;");
         due.is("13 no fewer legs than 0, a gap", NONE, () -> legless.crosses(1, 0));
         due.is("13 no fewer legs than 0, no gap", 0, () -> legless.crosses(0, 1));
+        BookBridge last = Due.bridge("book 9;book 1;plain 0 1 5 62 63;flood 63;");
+        due.is("13 the day ahead of the last flood", 0, () -> last.crosses(0, 62));
+        due.is("13 the last flood", NONE, () -> last.crosses(0, 63));
+        due.is("13 no flood behind it", 0, () -> last.crosses(0, 64));
+        due.is("13 nor on the last day", 0, () -> last.crosses(0, 99));
         BookBridge no = Due.bridge("plain 0 0 20 0 0;flood 0;");
         due.is("13 no planks, no gaps", 0, () -> no.crosses(0, 0));
     }
