@@ -86,6 +86,8 @@ public final class FaceTest {
         due.yes("few fields: " + inside, fields <= 20);
         for (Method method : inside.getDeclaredMethods()) {
             due.yes("few parameters: " + method, method.getParameterCount() <= 7);
+            boolean taken = FACE.stream().anyMatch(signature -> signature.contains(" " + method.getName() + "("));
+            due.yes("no name of the face: " + method, !taken);
         }
     }
 
