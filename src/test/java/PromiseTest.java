@@ -1,4 +1,4 @@
-/** One method a promise, by its number, with answers worked out by hand from the document. */
+/** One method a promise, by its number, with answers worked out by hand (draws by a seed: by a separate script). */
 public final class PromiseTest {
     private static final int NONE = -1;
     private static final long NO_SUCH = Due.NO_SUCH;
