@@ -9,6 +9,7 @@ final class Due {
 
     private int wrong;
     private int looked;
+    private String about = "";
 
     interface Call {
         long answer();
@@ -30,8 +31,13 @@ final class Due {
         long got = answer(call);
         if (got != want) {
             wrong++;
-            System.out.println(what + " answered " + show(got) + ", due is " + show(want));
+            System.out.println(about + what + " answered " + show(got) + ", due is " + show(want));
         }
+    }
+
+    /** What stands ahead of all that is told from here on. */
+    void about(String text) {
+        about = text;
     }
 
     void yes(String what, boolean holds) {
@@ -72,6 +78,17 @@ final class Due {
             bridge.feed(number(bytes, i), number(bytes, i + 4), number(bytes, i + 8), number(bytes, i + 12),
                     number(bytes, i + 16));
         }
+    }
+
+    /** A river whose FAULT is marked by a ^ ahead of its TOKEN; without a mark there is none. */
+    void fault(int code, String marked) {
+        BookBridge bridge = new BookBridge();
+        int mark = marked.indexOf('^');
+        String text = marked.replace("^", "");
+        String shown = marked.replace('\n', '~');
+        is("river of '" + shown + "'", code, () -> river(bridge, text));
+        is("place of '" + shown + "'", mark, bridge::fault);
+        is("STATUS 0 of '" + shown + "'", code == 0 ? 0 : 1, () -> bridge.count(9));
     }
 
     static int river(BookBridge bridge, String text) {
