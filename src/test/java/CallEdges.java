@@ -54,6 +54,14 @@ final class CallEdges {
         due.is("nothing found", NO_SUCH, new BookBridge()::first);
     }
 
+    @Says("The constants: `NONE = -1`: There is none.")
+    void none() throws ReflectiveOperationException {
+        int none = BookBridge.class.getField("NONE").getInt(null);
+        due.is("NONE", -1, () -> none);
+        due.is("no fault", none, new BookBridge()::fault);
+        due.is("nothing to forget", none, new BookBridge()::forget);
+    }
+
     private void noCases(BookBridge b) {
         due.is("no term", 0, () -> b.count(6));
         int[] days = {0, 1, 63, 64, 99};

@@ -103,6 +103,24 @@ final class CrossEdges {
         due.is("the other COURT's are no matter", 2, () -> late.planks(1, 0));
     }
 
+    @Says("in the order in which planks are laid (or the other way round, it is all one)")
+    void theOtherWayRound() {
+        BookBridge b = bridge("-#--#---#-", "case 0 1 1;case 1 1 9;fee 7;flood 3;plain 0 3 5 0 9;plain 0 2 5 0 9;farmer 0 1 5 0 9;"
+                + "farmer 0 0 0 0 9;plain 0 4 5 0 9;");
+        int[][] pays = {{NONE, 0, 0, NONE}, {NONE, NONE, NONE, NONE}, {49, 35, 35, NONE}, {14, 0, 0, 0}, {0, 0, 0, 0}};
+        for (int turn = 0; turn < 2; turn++) {
+            for (int i = 0; i < 5; i++) {
+                for (int j = 0; j < 4; j++) {
+                    int walker = i;
+                    int day = j;
+                    due.is("walker " + i + " on day " + j + ", turn " + turn, pays[i][j], () -> b.crosses(walker, day));
+                }
+            }
+            due.is("the bar, turn " + turn, turn == 0 ? 16 * 5 + 3 : 16 * 2 + 3, () -> b.bar(0, 3));
+            due.yes("turned round", b.lay(0x0123456789L));
+        }
+    }
+
     @Says("A GAP is a longest row of planks that aren't THERE.")
     void gapIsALongestRow() {
         BookBridge b = bridge("#-##-#", "case 0 1 2;plain 0 1 5 0 0;plain 0 2 5 0 0;plain 0 1 0 0 0;");

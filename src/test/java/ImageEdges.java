@@ -49,6 +49,12 @@ final class ImageEdges {
         status("nor are these", b, 1, 2, 1);
         due.is("an empty text", 0, () -> b.river(0));
         status("another river", b, 1, 2, 1);
+        BookBridge often = new BookBridge();
+        for (int i = 0; i < 250; i++) {
+            often.docket(1);
+            often.lay(1);
+        }
+        status("as many as an object's calls", often, 0, 500, 0);
     }
 
     @Says("AN IMAGE keeps the DOCKET, how planks are laid, SEEN, STATUS.")

@@ -231,6 +231,21 @@ final class SearchEdges {
         due.is("none", NONE, () -> wide.settled(1, 0));
     }
 
+    @Says("none, if there is none. FEUD")
+    void noneToSettle() {
+        String walkers = "plain 0 0 10 0 0;plain 0 0 9 0 0;cart 0 0 5 0 0;judge 0 0 0 0 0;judge 1 0 0 0 0;";
+        BookBridge b = Due.bridge("book 9;case 0 1 0;" + walkers);
+        int[] settled = {NONE, 1, NONE, NONE, 1};
+        int[] later = {NONE, 0, NONE, NONE, 0};
+        for (int i = 0; i < 5; i++) {
+            int walker = i;
+            due.is("walker " + i, settled[i], () -> b.settled(walker, 0));
+            due.is("no CASE is heard, walker " + i, later[i], () -> b.settled(walker, 1));
+            due.is("no CASES, walker " + i, i == 0 || i == 2 ? NONE : 0, () -> Due.bridge("book 9;" + walkers).settled(walker, 0));
+        }
+        due.is("no BOOKS", 0, () -> Due.bridge("plain 0 0 20 0 0;").settled(0, 0));
+    }
+
     @Says(promise = 19, value = "SETTLED, as bits (0: he CROSSES anyway); NONE: none.")
     void settledOrNot() {
         BookBridge b = Due.bridge("book 9;book 4;case 0 1 0;plain 0 0 5 0 0;plain 0 1 5 0 0;plain 0 2 5 0 0;plain 0 0 4 0 0;");

@@ -237,6 +237,32 @@ final class SeenEdges {
         due.is("explains() is no matter", NO_SUCH, b::first);
     }
 
+    @Says(promise = 25, value = "The first DOCKET that EXPLAINED by the latest explains(), as figures.")
+    void byTheLatestExplains() {
+        BookBridge b = Due.bridge(EITHER);
+        due.is("both", 2, b::explains);
+        due.is("the first", 8, b::first);
+        b.see(0, 0, true);
+        due.is("as long as there is no other explains()", 8, b::first);
+        b.docket(1);
+        b.lay(1);
+        b.heard(0, true);
+        b.best(0);
+        b.terms(0, 1, 5);
+        b.image();
+        b.restore();
+        due.is("whatever else is called", 8, b::first);
+        due.is("one", 1, b::explains);
+        due.is("the last docket", 1, b::first);
+        due.is("again", 1, b::first);
+        b.forget();
+        due.is("what is forgotten since is no matter", 1, b::first);
+        BookBridge seven = Due.bridge("book 9;book 5;case 0 1 1;" + "case 0 1 0;".repeat(6) + "plain 0 1 6 0 0;");
+        seven.see(0, 6, true);
+        due.is("case 0 is the last", 720, seven::explains);
+        due.is("seven figures, the first one lowest", 00654321, seven::first);
+    }
+
     @Says(promise = 25, value = "NoSuchElementException: there was none, or no explains() since the RIVER came.")
     void noFirst() {
         BookBridge b = new BookBridge();
