@@ -535,7 +535,7 @@ public final class BookBridge {
 
         /** The longest GAP that he steps over. */
         int steps(boolean flood) {
-            return flood ? Math.max(legs - 1, 0) : legs;
+            return flood && legs > 0 ? legs - 1 : legs;
         }
 
         /** The longest GAP that he gets through. */

@@ -12,13 +12,17 @@ import java.util.regex.Pattern;
 
 /** The document's face, and those rules of LANGUAGE.md that can be seen from the class or its text. */
 public final class FaceTest {
-    private static final Set<String> FACE = Set.of("int feed(int,int,int,int,int)", "int river(int)", "int fault()",
-            "int count(int)", "int book(int,int)", "int hearing(int,int)", "int walker(int,int)",
-            "boolean docket(int)", "boolean lay(long)", "int up(int,int)", "int planks(int,int)",
-            "int crosses(int,int)", "int bar(int,int)", "int over(int)", "int best(int)", "long lays(int)",
-            "int suit(int,int)", "int settled(int,int)", "int feud(int,int,int,int)", "int see(int,int,boolean)",
-            "int forget()", "int explains()", "int heard(int,boolean)", "int first()", "int terms(int,int,int)",
-            "void image()", "boolean restore()");
+    private static final String NO_SUCH = " throws NoSuchElementException";
+    private static final String ILLEGAL = " throws IllegalArgumentException";
+    private static final String BOTH = NO_SUCH + ", IllegalArgumentException";
+    private static final Set<String> FACE = Set.of("int feed(int,int,int,int,int)", "int river(int)" + ILLEGAL,
+            "int fault()", "int count(int)" + NO_SUCH, "int book(int,int)" + NO_SUCH, "int hearing(int,int)" + NO_SUCH,
+            "int walker(int,int)" + NO_SUCH, "boolean docket(int)", "boolean lay(long)", "int up(int,int)" + NO_SUCH,
+            "int planks(int,int)" + NO_SUCH, "int crosses(int,int)" + NO_SUCH, "int bar(int,int)" + NO_SUCH,
+            "int over(int)" + NO_SUCH, "int best(int)" + NO_SUCH, "long lays(int)" + NO_SUCH,
+            "int suit(int,int)" + NO_SUCH, "int settled(int,int)" + NO_SUCH, "int feud(int,int,int,int)" + BOTH,
+            "int see(int,int,boolean)" + NO_SUCH, "int forget()", "int explains()", "int heard(int,boolean)" + NO_SUCH,
+            "int first()" + NO_SUCH, "int terms(int,int,int)" + BOTH, "void image()", "boolean restore()");
 
     private static final List<String> NOT_IN_IT = List.of("->", "::", "\\bcatch\\b", "\\btry\\b", "\\bfinally\\b",
             "\\bsynchronized\\b", "\\bassert\\b", "\\binstanceof\\b", "\\bstatic \\{", "\\bprotected\\b", "\\bMath\\.\\w+Exact\\b",
@@ -29,10 +33,25 @@ public final class FaceTest {
     public static void main(String[] args) throws Exception {
         FaceTest test = new FaceTest();
         test.members();
+        Path document = Path.of(args[1]);
+        if (Files.exists(document)) {
+            test.document(Files.readString(document));
+        }
         String source = Files.readString(Path.of(args[0]));
         test.text(source.replaceAll("(?s)/\\*.*?\\*/", "").replaceAll("//[^\\n]*", ""));
         test.methods(source);
         test.due.end();
+    }
+
+    /** The face as the document writes it is the one that the class is held to. */
+    private void document(String document) {
+        Set<String> told = new TreeSet<>();
+        Matcher method = Pattern.compile("(?m)^    public (\\w+ \\w+)\\((.*?)\\)(.*);$").matcher(document);
+        while (method.find()) {
+            String types = method.group(2).replaceAll(" \\w+(?=,|$)", "").replace(" ", "");
+            told.add(method.group(1) + "(" + types + ")" + method.group(3));
+        }
+        due.yes("the document's face " + told, told.equals(FACE));
     }
 
     private void members() {
@@ -58,13 +77,17 @@ public final class FaceTest {
             boolean none = field.getName().equals("NONE") && Modifier.isPublic(field.getModifiers());
             due.yes("private: " + field, none || Modifier.isPrivate(field.getModifiers()));
         }
+        due.is("NONE", -1, () -> BookBridge.NONE);
         for (Constructor<?> constructor : it.getDeclaredConstructors()) {
-            due.yes("one constructor", constructor.getParameterCount() == 0);
+            due.yes("one constructor", constructor.getParameterCount() == 0
+                    && Modifier.isPublic(constructor.getModifiers()));
         }
-        due.yes("few classes", it.getDeclaredClasses().length <= 12);
+        size(it);
+        due.yes("few classes", it.getDeclaredClasses().length < 12);
         for (Class<?> inside : it.getDeclaredClasses()) {
             due.yes("static: " + inside, Modifier.isStatic(inside.getModifiers()));
-            inside(inside);
+            size(inside);
+            names(inside);
         }
     }
 
@@ -73,19 +96,28 @@ public final class FaceTest {
         for (int i = 0; i < method.getParameterCount(); i++) {
             text.append(i == 0 ? "" : ",").append(method.getParameterTypes()[i]);
         }
-        return text.append(')').toString();
+        text.append(')');
+        for (int i = 0; i < method.getExceptionTypes().length; i++) {
+            text.append(i == 0 ? " throws " : ", ").append(method.getExceptionTypes()[i].getSimpleName());
+        }
+        return text.toString();
     }
 
-    private void inside(Class<?> inside) {
+    private void size(Class<?> some) {
         int fields = 0;
-        for (Field field : inside.getDeclaredFields()) {
+        for (Field field : some.getDeclaredFields()) {
             boolean fixed = Modifier.isStatic(field.getModifiers());
             due.yes("static fields are final: " + field, !fixed || Modifier.isFinal(field.getModifiers()));
             fields += fixed ? 0 : 1;
         }
-        due.yes("few fields: " + inside, fields <= 20);
-        for (Method method : inside.getDeclaredMethods()) {
+        due.yes("few fields: " + some, fields <= 20);
+        for (Method method : some.getDeclaredMethods()) {
             due.yes("few parameters: " + method, method.getParameterCount() <= 7);
+        }
+    }
+
+    private void names(Class<?> inside) {
+        for (Method method : inside.getDeclaredMethods()) {
             boolean taken = FACE.stream().anyMatch(signature -> signature.contains(" " + method.getName() + "("));
             due.yes("no name of the face: " + method, !taken);
         }
